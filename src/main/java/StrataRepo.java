@@ -151,7 +151,9 @@ public final class StrataRepo {
     public int go(int branch) throws IndexOutOfBoundsException, IllegalStateException {
         needBranch(branch);
         needNoWork();
-        needClean();
+        if (!isClean()) {
+            throw new IllegalStateException("the desk is not clean");
+        }
         int before = head;
         head = branch;
         desk.become(treeOf(headCommit()));
@@ -476,7 +478,7 @@ public final class StrataRepo {
     }
 
     public int culprit() {
-        return Long.bitCount(suspects) == 1 ? Long.numberOfTrailingZeros(suspects) : NONE;
+        return Long.bitCount(suspects) == 1 ? greatestOf(suspects) : NONE;
     }
 
     // ---- what would be (nothing is changed)
@@ -637,12 +639,6 @@ public final class StrataRepo {
         }
     }
 
-    private void needClean() {
-        if (!isClean()) {
-            throw new IllegalStateException("the desk is not clean");
-        }
-    }
-
     private void needRoom(int more) {
         if (history.count + more > MOST_COMMITS) {
             throw new IllegalStateException("there is no room for the commits");
@@ -651,9 +647,8 @@ public final class StrataRepo {
 
     private void needReady() {
         needNoWork();
-        needClean();
-        if (headCommit() == NONE) {
-            throw new IllegalStateException("the head is at no commit");
+        if (headCommit() == NONE || !isClean()) {
+            throw new IllegalStateException("the head is at no commit, or the desk is not clean");
         }
     }
 
@@ -665,6 +660,16 @@ public final class StrataRepo {
     }
 
     // ---- commits, branches and the HEAD
+
+    /** The greatest number of commits that have one bit each; NONE without any. */
+    private static int greatestOf(long some) {
+        for (int commit = MOST_COMMITS - 1; commit >= 0; commit--) {
+            if ((some & (1L << commit)) != 0L) {
+                return commit;
+            }
+        }
+        return NONE;
+    }
 
     private int headCommit() {
         return commitOf(head);
@@ -967,7 +972,7 @@ public final class StrataRepo {
 
         /** Of the commits that both have, the last one made: no other of them can have it behind it. */
         int baseOf(int a, int b) {
-            return 63 - Long.numberOfLeadingZeros(at(a).ancestors & at(b).ancestors);
+            return greatestOf(at(a).ancestors & at(b).ancestors);
         }
 
         long withoutMerges(long some) {
@@ -1079,13 +1084,15 @@ public final class StrataRepo {
         private final Match toOurs = new Match();
         private final Match toTheirs = new Match();
         private final Tree result = new Tree();
+        /** Any tree will do until start() brings the three: none of them is ever null. */
         private Tree base = result;
         private Tree ours = result;
         private Tree theirs = result;
 
         private final int[] files = new int[MOST_PIECES];
-        private final int[][] tops = new int[SIDES][MOST_PIECES];
-        private final int[][] sizes = new int[SIDES][MOST_PIECES];
+        /** Where each piece begins and how long it is: all of one side, then all of the next. */
+        private final int[] tops = new int[SIDES * MOST_PIECES];
+        private final int[] sizes = new int[SIDES * MOST_PIECES];
         private final int[] ways = new int[MOST_PIECES];
         private int pieces = 0;
         /** Where the next piece begins, on each side. */
@@ -1161,7 +1168,7 @@ public final class StrataRepo {
             if (piece < 0 || piece >= MOST_PIECES || side < 0 || side >= SIDES) {
                 return NONE;
             }
-            return sizes[side][piece];
+            return sizes[side * MOST_PIECES + piece];
         }
 
         int lineOf(int piece, int side, int place) {
@@ -1176,7 +1183,7 @@ public final class StrataRepo {
             if (piece < 0 || piece >= MOST_PIECES || side < 0 || side >= SIDES) {
                 return NONE;
             }
-            return tops[side][piece];
+            return tops[side * MOST_PIECES + piece];
         }
 
         private int wayOf(int piece) {
@@ -1221,8 +1228,8 @@ public final class StrataRepo {
 
         private void addSpan(int side, int end) {
             if (isPiece(pieces) && side >= 0 && side < SIDES) {
-                tops[side][pieces] = next[side];
-                sizes[side][pieces] = end - next[side];
+                tops[side * MOST_PIECES + pieces] = next[side];
+                sizes[side * MOST_PIECES + pieces] = end - next[side];
                 next[side] = end + 1;
             }
         }

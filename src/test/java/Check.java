@@ -21,6 +21,13 @@ final class Check {
         due(promise, what, got ? 1L : 0L, want ? 1L : 0L);
     }
 
+    static void due(int promise, String what, String got, String want) {
+        done++;
+        if (!got.equals(want)) {
+            say(promise, what + " answered " + got + ", due is " + want);
+        }
+    }
+
     static void near(int promise, String what, double got, double want) {
         done++;
         if (got != want) {
