@@ -240,6 +240,45 @@ public final class ConflictTest {
         Check.due(19, "lineAt(3, 7, 2)", repo.lineAt(3, 7, 2), 501);
     }
 
+    /** All lines of eight files of 40 are HELD but a few: no piece may be lost. */
+    private static void manyPieces() {
+        StrataRepo repo = new StrataRepo();
+        for (int file = 0; file < 8; file++) {
+            Make.file(repo, file, Make.row(100 * file, 40));
+        }
+        repo.commit(1);
+        repo.branch(1);
+        repo.replace(0, 0, 900);
+        repo.commit(2);
+        repo.go(1);
+        repo.replace(7, 39, 901);
+        repo.commit(3);
+        Check.due(14, "merge(0)", repo.merge(0), 2);
+        Check.due(43, "touched(2, 3)", repo.touched(2, 3), 1);
+        Check.due(43, "touched(1, 3)", repo.touched(1, 3), 1);
+        Check.due(14, "lineAt(3, 0, 0)", repo.lineAt(3, 0, 0), 900);
+        Check.due(14, "lineAt(3, 7, 39)", repo.lineAt(3, 7, 39), 901);
+    }
+
+    /** A merge that is as ours: carried over, each line of each file is HELD. */
+    private static void mostPieces() {
+        StrataRepo repo = new StrataRepo();
+        for (int file = 0; file < 8; file++) {
+            Make.file(repo, file, Make.row(100 * file, 40));
+        }
+        repo.commit(1);
+        repo.branch(1);
+        repo.replace(7, 39, 901);
+        repo.commit(2);
+        repo.go(1);
+        repo.replace(7, 39, 901);
+        repo.commit(3);
+        Check.due(14, "merge(0), as ours", repo.merge(0), 2);
+        Check.due(15, "carry(3), as its first parent", repo.carry(3), 0);
+        Check.due(16, "takeBack(3), as its first parent", repo.takeBack(3), 0);
+        Check.due(43, "touched(2, 3)", repo.touched(2, 3), 0);
+    }
+
     private static int[] between(int first) {
         int[] row = new int[40];
         for (int n = 0; n < 20; n++) {
@@ -257,6 +296,8 @@ public final class ConflictTest {
         numbers();
         longFiles();
         manyConflicts();
+        manyPieces();
+        mostPieces();
         StrataRepo idle = Make.clash();
         Check.index(25, "conflictFile(0), nothing pending", idle, () -> idle.conflictFile(0));
         Check.index(26, "pieceSize(0, 0), nothing pending", idle, () -> idle.pieceSize(0, 0));

@@ -167,6 +167,27 @@ public final class DeskTest {
         Check.state(7, "discard(), pending", busy, busy::discard);
     }
 
+    /** The last file has its forty lines at the very end of what is kept. */
+    private static void lastFile() {
+        StrataRepo repo = new StrataRepo();
+        Make.file(repo, 6, Make.row(100, 40));
+        Make.file(repo, 7, Make.row(200, 40));
+        Check.state(4, "insert(7, 40, 1), 40 lines", repo, () -> repo.insert(7, 40, 1));
+        Check.due(6, "replace(7, 39, 5)", repo.replace(7, 39, 5), 239);
+        Check.state(6, "replace(7, 40, 5)", repo, () -> repo.replace(7, 40, 5));
+        Check.state(5, "erase(7, 40)", repo, () -> repo.erase(7, 40));
+        Check.due(5, "erase(7, 0)", repo.erase(7, 0), 200);
+        Check.due(29, "deskLine(7, 38)", repo.deskLine(7, 38), 5);
+        Check.due(4, "insert(7, 0, 6)", repo.insert(7, 0, 6), 40);
+        Check.due(29, "deskLine(7, 39)", repo.deskLine(7, 39), 5);
+        Check.due(5, "erase(7, 39)", repo.erase(7, 39), 5);
+        Check.due(4, "insert(7, 39, 7)", repo.insert(7, 39, 7), 40);
+        Check.due(5, "erase(6, 39)", repo.erase(6, 39), 139);
+        Check.due(29, "deskLine(7, 0)", repo.deskLine(7, 0), 6);
+        Check.due(6, "replace(6, 0, 8)", repo.replace(6, 0, 8), 100);
+        Check.due(29, "deskLine(6, 0)", repo.deskLine(6, 0), 8);
+    }
+
     private static void asked() {
         StrataRepo repo = new StrataRepo();
         Make.file(repo, 4, 11, 12);
@@ -222,6 +243,7 @@ public final class DeskTest {
         erase();
         replace();
         discard();
+        lastFile();
         asked();
         isClean();
         Check.end();

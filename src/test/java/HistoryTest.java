@@ -128,6 +128,34 @@ public final class HistoryTest {
         Check.index(45, "pairOf(3, 3, 1, 0), no lines", repo, () -> repo.pairOf(3, 3, 1, 0));
     }
 
+    /** Lines that come again, and a pair at the very end of forty lines. */
+    private static void matchedAtTheEdges() {
+        StrataRepo repo = new StrataRepo();
+        Make.commit(repo, 1, 0, 2, 1);
+        Make.commit(repo, 2, 0, 1, 1);
+        Check.due(45, "pairOf(0, 1, 0, 1), the first of both", repo.pairOf(0, 1, 0, 1), 0);
+        Check.due(44, "added(0, 1, 0)", repo.added(0, 1, 0), 1);
+        Check.due(45, "pairOf(1, 0, 0, 0), as long without it", repo.pairOf(1, 0, 0, 0), -1);
+        Check.due(45, "pairOf(1, 0, 0, 1)", repo.pairOf(1, 0, 0, 1), 1);
+        Make.commit(repo, 3, 0, Make.row(100, 40));
+        Make.commit(repo, 4, 0, 9, 139);
+        Check.due(45, "pairOf(2, 3, 0, 39)", repo.pairOf(2, 3, 0, 39), 1);
+        Check.due(45, "pairOf(3, 2, 0, 1)", repo.pairOf(3, 2, 0, 1), 39);
+        Check.due(44, "added(2, 3, 0)", repo.added(2, 3, 0), 1);
+        Check.due(44, "added(3, 2, 0)", repo.added(3, 2, 0), 39);
+        Make.commit(repo, 5, 0, Make.row(101, 40));
+        Check.due(45, "pairOf(2, 4, 0, 0)", repo.pairOf(2, 4, 0, 0), -1);
+        Check.due(45, "pairOf(2, 4, 0, 39)", repo.pairOf(2, 4, 0, 39), 38);
+        Check.due(44, "added(2, 4, 0)", repo.added(2, 4, 0), 1);
+        Make.commit(repo, 6, 0, 3, 4, 3, 4, 5, 3);
+        Make.commit(repo, 7, 0, 4, 5, 3, 3, 4, 5);
+        // L(1, 0) is 4, by 4 3 4 5, and so is L(0, 1), by 3 3 4 5: so the 3 at the top is REMOVED.
+        int[] wants = {-1, 0, 2, 4, 5, -1};
+        for (int place = 0; place < 6; place++) {
+            Check.due(45, "pairOf(5, 6, 0, " + place + ")", repo.pairOf(5, 6, 0, place), wants[place]);
+        }
+    }
+
     private static void blame() {
         StrataRepo repo = new StrataRepo();
         Make.commit(repo, 0, 0, 1, 2, 3);
@@ -212,6 +240,7 @@ public final class HistoryTest {
         depths();
         touched();
         matched();
+        matchedAtTheEdges();
         blame();
         blameParents();
         wrongCommits();

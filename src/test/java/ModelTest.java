@@ -137,6 +137,24 @@ public final class ModelTest {
         return isFine && same(repo, model, run, "commit", 1) && same(repo, model, run, "branch", 1);
     }
 
+    /** Many commits on both branches, so that the run comes to where no more can be made. */
+    private boolean crowd(StrataRepo repo, Model model, StringBuilder run) {
+        boolean isFine = true;
+        for (int n = 0; n < 50 && isFine; n++) {
+            if (next(4) == 0) {
+                isFine = same(repo, model, run, "go", next(2));
+            }
+            int size = repo.deskLines(0);
+            if (size > 3 && next(2) == 0) {
+                isFine = isFine && same(repo, model, run, "erase", 0, next(size));
+            } else {
+                isFine = isFine && same(repo, model, run, "insert", 0, next(size + 1), next(mostLines));
+            }
+            isFine = isFine && same(repo, model, run, "commit", n);
+        }
+        return isFine;
+    }
+
     private boolean run(int kind) {
         mostFiles = kind % 3 == 0 ? 1 : kind % 3 == 1 ? 3 : 8;
         mostLines = kind % 4 == 0 ? 2 : kind % 4 == 1 ? 4 : kind % 4 == 2 ? 20 : 1000;
@@ -148,6 +166,9 @@ public final class ModelTest {
         if (!fill(repo, model, run, sizes[kind % 6])) {
             return false;
         }
+        if (kind % 7 == 3 && !crowd(repo, model, run)) {
+            return false;
+        }
         for (int call = 0; call < 512; call++) {
             if (!step(repo, model, run)) {
                 return false;
@@ -156,6 +177,7 @@ public final class ModelTest {
                 return false;
             }
         }
+        SEEN.merge(repo.commits() == 60 ? "runs to 60 commits" : "runs", 1, Integer::sum);
         return askAll(repo, model, run);
     }
 
@@ -194,7 +216,7 @@ public final class ModelTest {
         needSeen("merge 0", "merge 1", "merge 2", "merge 3", "carry 0", "carry 2", "carry 3", "takeBack 0",
                 "takeBack 2", "takeBack 3", "replay 0", "replay 1", "replay 2", "replay 3", "goOn 0", "goOn 1",
                 "goOn 2", "goOn 3", "wouldMerge 0", "wouldMerge 1", "wouldMerge 2", "wouldMerge 3", "giveUp answers",
-                "pending 1", "pending 2", "pending 3", "pending 4", "sweep answers", "tell answers");
+                "pending 1", "pending 2", "pending 3", "pending 4", "runs to 60 commits", "sweep answers", "tell answers");
         if (arguments.length > 0) {
             System.out.println(SEEN);
         }

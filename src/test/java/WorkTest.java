@@ -51,6 +51,18 @@ public final class WorkTest {
         Check.index(14, "merge(2), 60 made", full, () -> full.merge(2));
     }
 
+    private static void mergeFirstCommit() {
+        StrataRepo repo = Make.chain(1);
+        repo.branch(1);
+        Check.due(14, "merge(1), both at commit 0", repo.merge(1), 0);
+        Check.due(17, "replay(1), both at commit 0", repo.replay(1), 0);
+        Make.commit(repo, 1, 0, 7);
+        Check.due(14, "merge(1), at commit 0", repo.merge(1), 0);
+        repo.go(1);
+        Check.due(17, "replay(0), from commit 0", repo.replay(0), 1);
+        Check.due(17, "commitOf(1)", repo.commitOf(1), 1);
+    }
+
     private static void mergeAsOurs() {
         StrataRepo repo = Make.fork(new int[] {1}, new int[] {2}, new int[] {2});
         Check.due(14, "merge(0), as ours", repo.merge(0), 2);
@@ -294,6 +306,37 @@ public final class WorkTest {
         Check.due(17, "file 2", Make.desk(repo, 2), "8");
     }
 
+    /** A merge settled by a way of its own: carried over, it would be in CONFLICT, or be a commit. */
+    private static void replayOverSettledMerge() {
+        StrataRepo repo = Make.clash();
+        repo.merge(0);
+        repo.settle(0, 3);
+        repo.goOn();
+        repo.go(0);
+        repo.reset(0);
+        Make.commit(repo, 60, 2, 8);
+        repo.go(1);
+        Check.due(17, "replay(0)", repo.replay(0), 3);
+        Check.due(17, "commits()", repo.commits(), 6);
+        Check.due(24, "left(), without the merge", repo.left(), 0);
+        repo.settle(0, 0);
+        Check.due(19, "goOn()", repo.goOn(), 2);
+        Check.due(19, "commits()", repo.commits(), 6);
+        Check.due(19, "file 0", Make.desk(repo, 0), "1 4 3");
+    }
+
+    /** The one commit that a replay makes is the one that was in CONFLICT. */
+    private static void replayMadeByGoOn() {
+        StrataRepo repo = Make.clash();
+        Check.due(17, "replay(0)", repo.replay(0), 3);
+        repo.settle(0, 1);
+        Check.due(19, "goOn()", repo.goOn(), 2);
+        Check.due(19, "commits()", repo.commits(), 4);
+        Check.due(19, "file 0", Make.desk(repo, 0), "1 5 3");
+        Check.due(19, "word", repo.wordOf(3), 30);
+        Check.due(19, "parent", repo.parent(3, false), 1);
+    }
+
     private static void replayRoom() {
         StrataRepo repo = Make.chain(56);
         repo.branch(1);
@@ -481,6 +524,7 @@ public final class WorkTest {
 
     public static void main(String[] arguments) {
         merge();
+        mergeFirstCommit();
         mergeAsOurs();
         mergeTwice();
         mergePending();
@@ -493,6 +537,8 @@ public final class WorkTest {
         replay();
         replaySame();
         replayWithoutMerges();
+        replayOverSettledMerge();
+        replayMadeByGoOn();
         replayRoom();
         replayPending();
         replayPendingTwice();

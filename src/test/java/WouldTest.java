@@ -116,6 +116,7 @@ public final class WouldTest {
                 new long[] {0},
                 new long[] {2, 1, 4, -1, -1, -1, -1, -1, -1, -1},
                 new long[] {0, 1, 2, 1}));
+        digestOfReplay();
         busy.settle(0, 1);
         busy.goOn();
         busy.create(7);
@@ -127,6 +128,29 @@ public final class WouldTest {
                 new long[] {0},
                 new long[] {1, 1, 1, -1, 30, 3, 3, 1, 5, 6, -1, -1, -1, -1, -1, -1, -1},
                 new long[] {3, 1, 5, 6, -1, -1, -1, -1, -1, -1, 0}));
+    }
+
+    /** Each number on its own: a commit left, a CONFLICT of the file 3 that theirs has not. */
+    private static void digestOfReplay() {
+        StrataRepo repo = new StrataRepo();
+        Make.commit(repo, 5, 3, 8);
+        repo.branch(2);
+        Make.commit(repo, 6, 3, 9);
+        repo.go(2);
+        repo.delete(3);
+        repo.commit(7);
+        repo.create(0);
+        repo.commit(8);
+        repo.seek(0, 3);
+        repo.replay(0);
+        Check.due(55, "digest(), one left", repo.digest(), fold(
+                new long[] {4, 2, 1, 4, 1, 1, 1, 2, -1}, new long[] {1, -2, 1, -2, -2, -2, -2, -2},
+                new long[] {1, 1, -1, -1, 5, 1, -1, -1, -1, 1, 8, -1, -1, -1, -1},
+                new long[] {1, 1, 0, -1, 6, 2, -1, -1, -1, 1, 9, -1, -1, -1, -1},
+                new long[] {1, 0, 0, -1, 7, 2, -1, -1, -1, -1, -1, -1, -1, -1},
+                new long[] {1, 0, 2, -1, 8, 3, 0, -1, -1, -1, -1, -1, -1, -1},
+                new long[] {-1, -1, -1, 1, 9, -1, -1, -1, -1},
+                new long[] {3, 1, -1, 1}));
     }
 
     public static void main(String[] arguments) {
