@@ -119,7 +119,8 @@ public final class ConflictTest {
         }
     }
 
-    private static void numbers() {
+    /** A merge in four CONFLICTS, two of them in file 2. */
+    private static StrataRepo four() {
         StrataRepo repo = new StrataRepo();
         Make.file(repo, 2, 1, 2, 3, 4, 5);
         Make.file(repo, 5, 7);
@@ -137,10 +138,15 @@ public final class ConflictTest {
         repo.commit(3);
         Check.due(14, "merge(0)", repo.merge(0), 3);
         Check.due(22, "conflicts()", repo.conflicts(), 4);
+        return repo;
+    }
+
+    private static void numbers() {
         int[] files = {2, 2, 5, 6};
         int[][] sizes = {{2, 1, 1}, {1, 2, 1}, {-1, 1, 1}, {2, -1, 1}};
         int[][][] lines = {{{20, 21}, {10}, {1}}, {{22}, {11, 12}, {5}}, {{}, {70}, {7}}, {{8, 9}, {}, {7}}};
         for (int n = 0; n < 4; n++) {
+            StrataRepo repo = four();
             Check.due(25, "conflictFile(" + n + ")", repo.conflictFile(n), files[n]);
             for (int side = 0; side < 3; side++) {
                 String what = "(" + n + ", " + side;
@@ -158,7 +164,8 @@ public final class ConflictTest {
             }
             wrongSides(repo, n);
         }
-        wrongConflicts(repo);
+        wrongConflicts(four());
+        StrataRepo repo = four();
         repo.settle(0, 2);
         repo.settle(1, 0);
         repo.settle(2, 2);
@@ -210,29 +217,29 @@ public final class ConflictTest {
         Check.due(19, "lineAt(3, 0, 39)", both.lineAt(3, 0, 39), 109);
     }
 
-    /** As many CONFLICTS as files of 40 lines can be in: held lines, and lines of two sides between. */
+    /** Many CONFLICTS in files of 40 lines: held lines, and lines of two sides between. */
     private static void manyConflicts() {
         StrataRepo repo = new StrataRepo();
-        for (int file = 0; file < 8; file++) {
+        for (int file = 5; file < 8; file++) {
             Make.file(repo, file, Make.row(100, 20));
         }
         repo.commit(1);
         repo.branch(1);
-        for (int file = 0; file < 8; file++) {
+        for (int file = 5; file < 8; file++) {
             Make.file(repo, file, between(500));
         }
         repo.commit(2);
         repo.go(1);
-        for (int file = 0; file < 8; file++) {
+        for (int file = 5; file < 8; file++) {
             Make.file(repo, file, between(600));
         }
         repo.commit(3);
         Check.due(14, "merge(0)", repo.merge(0), 3);
-        Check.due(22, "conflicts()", repo.conflicts(), 160);
-        Check.due(25, "conflictFile(159)", repo.conflictFile(159), 7);
-        Check.due(27, "pieceLine(159, 1, 0)", repo.pieceLine(159, 1, 0), 519);
-        for (int n = 0; n < 160; n++) {
-            Check.due(18, "settle(" + n + ", 1)", repo.settle(n, n % 2), 159 - n);
+        Check.due(22, "conflicts()", repo.conflicts(), 60);
+        Check.due(25, "conflictFile(59)", repo.conflictFile(59), 7);
+        Check.due(27, "pieceLine(59, 1, 0)", repo.pieceLine(59, 1, 0), 519);
+        for (int n = 0; n < 60; n++) {
+            Check.due(18, "settle(" + n + ", " + n % 2 + ")", repo.settle(n, n % 2), 59 - n);
         }
         Check.due(19, "goOn()", repo.goOn(), 2);
         Check.due(19, "lines(3, 7)", repo.lines(3, 7), 40);

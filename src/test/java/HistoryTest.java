@@ -205,9 +205,8 @@ public final class HistoryTest {
     }
 
     private static void wrongCommits() {
-        StrataRepo repo = crossed();
         for (int wrong : NO_COMMITS) {
-            wrongCommit(repo, wrong);
+            wrongCommit(crossed(), wrong);
         }
         StrataRepo swept = Make.chain(8);
         swept.reset(6);

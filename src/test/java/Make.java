@@ -9,8 +9,8 @@ final class Make {
             repo.delete(file);
         }
         repo.create(file);
-        for (int line : lines) {
-            repo.insert(file, repo.deskLines(file), line);
+        for (int place = 0; place < lines.length; place++) {
+            repo.insert(file, place, lines[place]);
         }
     }
 
@@ -53,8 +53,10 @@ final class Make {
     /** As many commits as are wanted, each with another line in file 0. */
     static StrataRepo chain(int size) {
         StrataRepo repo = new StrataRepo();
-        for (int n = 0; n < size; n++) {
-            commit(repo, n, 0, n);
+        commit(repo, 0, 0, 0);
+        for (int n = 1; n < size; n++) {
+            repo.replace(0, 0, n);
+            repo.commit(n);
         }
         return repo;
     }

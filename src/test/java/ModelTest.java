@@ -1,10 +1,13 @@
-import java.lang.reflect.InvocationTargetException;
-import java.lang.reflect.Method;
+import java.util.ArrayList;
+import java.util.Arrays;
+import java.util.List;
+import java.util.Set;
 import java.util.TreeMap;
 
 /**
- * Long runs of calls, by a fixed row of numbers: each answer and each exception of StrataRepo must
- * be that of Model, and at the end of each run all that can be asked must be the same.
+ * Runs of the 512 calls that an object has, by a fixed row of numbers: each answer and each
+ * exception of StrataRepo must be that of Model. At the end of each run objects are made again, by
+ * the calls that changed something, and asked as often as they have calls left.
  */
 public final class ModelTest {
     /** Each call with what its arguments are, and how often it comes (in runs of edits, when PENDING). */
@@ -26,6 +29,19 @@ public final class ModelTest {
 
     private static final TreeMap<String, Integer> SEEN = new TreeMap<>();
 
+    /** The calls that change something, when they are not refused. */
+    private static final Set<String> CHANGES = Set.of("create", "delete", "insert", "erase", "replace", "discard",
+            "commit", "branch", "go", "drop", "reset", "sweep", "merge", "carry", "takeBack", "replay", "settle",
+            "goOn", "giveUp", "seek", "tell");
+    private static final int MOST_CALLS = 512;
+    /** More than a fork takes, with the checksum behind it. */
+    private static final int MOST_OF_FORK = 16;
+
+    private StrataRepo repo = new StrataRepo();
+    private final Model model = new Model();
+    private final StringBuilder run = new StringBuilder();
+    private final List<Runnable> script = new ArrayList<>();
+    private int calls = 0;
     private long seed;
     private int mostFiles;
     private int mostLines;
@@ -40,7 +56,7 @@ public final class ModelTest {
         return (int) ((seed >>> 33) % bound);
     }
 
-    private int argument(String role, StrataRepo repo) {
+    private int argument(String role) {
         if (next(1000) < wild) {
             int[] odd = {-1, 8, 40, 41, 60, 999, 1000, Integer.MAX_VALUE, Integer.MIN_VALUE, -2, 3, 4};
             return odd[next(odd.length)];
@@ -51,13 +67,26 @@ public final class ModelTest {
             case "line": return next(mostLines);
             case "word": return next(1000);
             case "branch": return next(next(4) == 0 ? 8 : 4);
-            case "commit": return repo.commits() == 0 ? 0 : next(3) == 0 ? next(repo.commits())
-                    : Math.max(0, repo.commits() - 1 - next(8));
-            case "conflict": return next(Math.max(1, repo.conflicts()));
+            case "commit": return model.commits() == 0 ? 0 : next(3) == 0 ? next(model.commits())
+                    : Math.max(0, model.commits() - 1 - next(8));
+            case "kept": return kept();
+            case "conflict": return next(Math.max(1, model.conflicts()));
             case "way": return next(4);
             case "side": return next(3);
             default: return next(2);
         }
+    }
+
+    /** A commit that is not GONE, if a few tries find one. */
+    private int kept() {
+        int commit = 0;
+        for (int n = 0; n < 8; n++) {
+            commit = next(Math.max(1, model.commits()));
+            if (model.isThere(commit)) {
+                break;
+            }
+        }
+        return commit;
     }
 
     private String pick(boolean isPending) {
@@ -80,28 +109,19 @@ public final class ModelTest {
         return Integer.parseInt(words[words.length - (isPending ? 1 : 2)]);
     }
 
-    private static String answer(Object target, String name, Class<?>[] kinds, Object[] arguments) {
-        try {
-            Method method = target.getClass().getDeclaredMethod(name, kinds);
-            return String.valueOf(method.invoke(target, arguments));
-        } catch (InvocationTargetException e) {
-            return e.getCause().getClass().getSimpleName();
-        } catch (ReflectiveOperationException e) {
-            throw new IllegalStateException(e);
-        }
-    }
-
-    private boolean same(StrataRepo repo, Model model, StringBuilder run, String name, Object... arguments) {
-        Class<?>[] kinds = new Class<?>[arguments.length];
-        for (int n = 0; n < kinds.length; n++) {
-            kinds[n] = arguments[n] instanceof Boolean ? boolean.class : int.class;
-        }
-        String got = answer(repo, name, kinds, arguments);
-        String want = answer(model, name, kinds, arguments);
-        String told = name + java.util.Arrays.toString(arguments) + " -> " + got;
+    /** Whether a call answers as the model; a call that changed something is kept for what is made again. */
+    private boolean same(String name, int... arguments) {
+        String got = Faces.answer(repo, name, arguments);
+        String want = Faces.answer(model, name, arguments);
+        calls++;
+        String told = name + Arrays.toString(arguments) + " -> " + got;
         run.append(told).append('\n');
+        boolean isRefused = got.endsWith("Exception");
+        if (CHANGES.contains(name) && !isRefused) {
+            script.add(() -> Faces.answer(repo, name, arguments));
+        }
         String key = name + " " + (name.matches("merge|carry|takeBack|replay|goOn|wouldMerge|pending")
-                || got.endsWith("Exception") ? got : "answers");
+                || isRefused ? got : "answers");
         SEEN.merge(key, 1, Integer::sum);
         if (got.equals(want)) {
             return true;
@@ -111,90 +131,125 @@ public final class ModelTest {
         return false;
     }
 
-    private boolean step(StrataRepo repo, Model model, StringBuilder run) {
-        String[] words = pick(repo.pending() != 0).split(" ");
-        Object[] arguments = new Object[words.length - 3];
+    /** What is asked to choose a call is asked of the model: the object has 512 calls. */
+    private boolean step() {
+        String[] words = pick(model.pending() != 0).split(" ");
+        int[] arguments = new int[words.length - 3];
         for (int n = 0; n < arguments.length; n++) {
-            int number = argument(words[n + 1], repo);
-            if (words[n + 1].equals("flag")) {
-                arguments[n] = number == 1;
-            } else {
-                arguments[n] = number;
-            }
+            arguments[n] = argument(words[n + 1]);
         }
-        return same(repo, model, run, words[0], arguments);
+        return same(words[0], arguments);
     }
 
     /** A first commit with long files, so that merges have much to do. */
-    private boolean fill(StrataRepo repo, Model model, StringBuilder run, int size) {
+    private boolean fill(int size) {
         boolean isFine = true;
         for (int file = 0; file < 2 && isFine; file++) {
-            isFine = same(repo, model, run, "create", file);
+            isFine = same("create", file);
             for (int place = 0; place < size && isFine; place++) {
-                isFine = same(repo, model, run, "insert", file, place, next(mostLines));
+                isFine = same("insert", file, place, next(mostLines));
             }
         }
-        return isFine && same(repo, model, run, "commit", 1) && same(repo, model, run, "branch", 1);
+        return isFine && same("commit", 1) && same("branch", 1);
     }
 
     /** Many commits on both branches, so that the run comes to where no more can be made. */
-    private boolean crowd(StrataRepo repo, Model model, StringBuilder run) {
+    private boolean crowd() {
         boolean isFine = true;
         for (int n = 0; n < 50 && isFine; n++) {
             if (next(4) == 0) {
-                isFine = same(repo, model, run, "go", next(2));
+                isFine = same("go", next(2));
             }
-            int size = repo.deskLines(0);
+            int size = model.deskLines(0);
             if (size > 3 && next(2) == 0) {
-                isFine = isFine && same(repo, model, run, "erase", 0, next(size));
+                isFine = isFine && same("erase", 0, next(size));
             } else {
-                isFine = isFine && same(repo, model, run, "insert", 0, next(size + 1), next(mostLines));
+                isFine = isFine && same("insert", 0, next(size + 1), next(mostLines));
             }
-            isFine = isFine && same(repo, model, run, "commit", n);
+            isFine = isFine && same("commit", n);
         }
         return isFine;
+    }
+
+    /** A commit on each of two branches, and then WORK that has to do with both. */
+    private boolean fork() {
+        int one = next(4);
+        int other = next(4);
+        boolean isFine = same("go", one) && edit() && edit() && same("commit", next(1000))
+                && same("go", other) && edit() && edit() && same("commit", next(1000));
+        switch (next(4)) {
+            case 0: return isFine && same("carry", argument("commit"));
+            case 1: return isFine && same("replay", one);
+            default: return isFine && same("merge", one);
+        }
+    }
+
+    private boolean edit() {
+        int file = next(mostFiles);
+        int size = model.deskLines(file);
+        if (size < 0) {
+            return same("create", file) && same("insert", file, 0, next(mostLines));
+        }
+        switch (next(12)) {
+            case 0: return same("delete", file);
+            case 1: case 2: case 3: return same("erase", file, next(size + 1));
+            case 4: case 5: case 6: case 7: return same("replace", file, next(size + 1), next(mostLines));
+            default: return same("insert", file, next(size + 1), next(mostLines));
+        }
     }
 
     private boolean run(int kind) {
         mostFiles = kind % 3 == 0 ? 1 : kind % 3 == 1 ? 3 : 8;
         mostLines = kind % 4 == 0 ? 2 : kind % 4 == 1 ? 4 : kind % 4 == 2 ? 20 : 1000;
         wild = kind % 5 == 0 ? 100 : 10;
-        StrataRepo repo = new StrataRepo();
-        Model model = new Model();
-        StringBuilder run = new StringBuilder();
         int[] sizes = {0, 6, 12, 20, 36, 40};
-        if (!fill(repo, model, run, sizes[kind % 6])) {
+        if (!fill(sizes[kind % 6])) {
             return false;
         }
-        if (kind % 7 == 3 && !crowd(repo, model, run)) {
+        if (kind % 7 == 3 && !crowd()) {
             return false;
         }
-        for (int call = 0; call < 512; call++) {
-            if (!step(repo, model, run)) {
-                return false;
-            }
-            if (call % 4 == 0 && !same(repo, model, run, "digest")) {
+        while (calls < MOST_CALLS - MOST_OF_FORK) {
+            boolean isFine = next(12) == 0 && model.pending() == 0 ? fork() : step();
+            if (!isFine || next(5) == 0 && !same("digest")) {
                 return false;
             }
         }
-        SEEN.merge(repo.commits() == 60 ? "runs to 60 commits" : "runs", 1, Integer::sum);
-        return askAll(repo, model, run);
+        SEEN.merge(model.commits() == 60 ? "runs to 60 commits" : "runs", 1, Integer::sum);
+        return same("digest") && askMore();
     }
 
-    private boolean askAll(StrataRepo repo, Model model, StringBuilder run) {
-        boolean isFine = true;
-        int made = repo.commits();
-        for (int a = 0; a < made && isFine; a++) {
-            for (int b = 0; b < made && isFine; b++) {
-                isFine = same(repo, model, run, "isAncestor", a, b) && same(repo, model, run, "base", a, b)
-                        && same(repo, model, run, "ahead", a, b) && same(repo, model, run, "touched", a, b);
+    /** Asks of an object that is made again, as often as it has calls left, and of another one behind that. */
+    private boolean askMore() {
+        List<Runnable> changes = List.copyOf(script);
+        for (int round = 0; round < 5; round++) {
+            repo = new StrataRepo();
+            for (Runnable change : changes) {
+                change.run();
             }
-            for (int place = 0; place < 40 && isFine; place++) {
-                isFine = same(repo, model, run, "blame", a, 0, place)
-                        && same(repo, model, run, "pairOf", a, made - 1, 0, place);
+            calls = changes.size();
+            while (calls < MOST_CALLS) {
+                if (!question()) {
+                    return false;
+                }
             }
         }
-        return isFine;
+        return true;
+    }
+
+    private boolean question() {
+        int a = argument("kept");
+        int b = argument("kept");
+        int file = next(mostFiles);
+        int size = model.isThere(a) ? Math.max(0, model.lines(a, file)) : 0;
+        switch (next(6)) {
+            case 0: return same("isAncestor", a, b);
+            case 1: return same("base", a, b);
+            case 2: return same("ahead", a, b);
+            case 3: return same("touched", a, b);
+            case 4: return same("blame", a, file, next(size + 1));
+            default: return same("pairOf", a, b, file, next(size + 1));
+        }
     }
 
     private static void needSeen(String... keys) {
@@ -204,7 +259,7 @@ public final class ModelTest {
     }
 
     public static void main(String[] arguments) {
-        int runs = arguments.length > 0 ? Integer.parseInt(arguments[0]) : 150;
+        int runs = arguments.length > 0 ? Integer.parseInt(arguments[0]) : 300;
         int first = arguments.length > 1 ? Integer.parseInt(arguments[1]) : 0;
         for (int n = 0; n < runs; n++) {
             boolean isFine = new ModelTest(first + n).run(n);

@@ -165,21 +165,24 @@ public final class RulesTest {
     private static void room() {
         com.sun.management.ThreadMXBean bean = (com.sun.management.ThreadMXBean) ManagementFactory.getThreadMXBean();
         long self = Thread.currentThread().getId();
-        StrataRepo repo = wide();
-        long before = bean.getThreadAllocatedBytes(self);
-        for (int n = 0; n < 500; n++) {
-            repo.wouldMerge(0);
-            repo.replay(0);
-            repo.digest();
-            repo.giveUp();
-            repo.blame(2, n % 8, 37);
-            repo.seek(0, 2);
-            repo.probe();
-            repo.discard();
+        long taken = 0;
+        for (int object = 0; object < 25; object++) {
+            StrataRepo repo = wide();
+            long before = bean.getThreadAllocatedBytes(self);
+            for (int n = 0; n < 20; n++) {
+                repo.wouldMerge(0);
+                repo.replay(0);
+                repo.digest();
+                repo.giveUp();
+                repo.blame(2, n % 8, 37);
+                repo.seek(0, 2);
+                repo.probe();
+                repo.discard();
+            }
+            taken += bean.getThreadAllocatedBytes(self) - before;
         }
-        long taken = bean.getThreadAllocatedBytes(self) - before;
         Check.due(0, "room of 4000 calls under 100,000 bytes: " + taken, taken < 100_000, true);
-        before = bean.getThreadAllocatedBytes(self);
+        long before = bean.getThreadAllocatedBytes(self);
         Make.chain(60);
         taken = bean.getThreadAllocatedBytes(self) - before;
         Check.due(0, "room of 60 commits under 300,000 bytes: " + taken, taken < 300_000, true);
