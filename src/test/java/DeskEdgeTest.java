@@ -55,6 +55,18 @@ public final class DeskEdgeTest {
         Edge.due(second.digest(), new StrataRepo().digest());
     }
 
+    static void promise01_theLastOf512Calls() {
+        StrataRepo repo = new StrataRepo();
+        repo.create(0);
+        for (int n = 0; n < 254; n++) {
+            repo.insert(0, 0, n);
+            Edge.due(repo.erase(0, 0), n);
+        }
+        repo.insert(0, 0, 5);
+        Edge.due(repo.commit(999), 0);
+        Edge.due(repo.lineAt(0, 0, 0), 5);
+    }
+
     static void promise01_whatNeedsACommitIsRefused() {
         Edge.refused(Edge.INDEX, StrataRepo::new, r -> r.reset(0), r -> r.carry(0), r -> r.takeBack(0),
                 r -> r.isReached(0), r -> r.parent(0, false), r -> r.parent(0, true), r -> r.wordOf(0),

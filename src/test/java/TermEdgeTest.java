@@ -337,6 +337,98 @@ public final class TermEdgeTest {
         Edge.due(match(a, b), "-1 ".repeat(39) + "39 +39");
     }
 
+    static void term03_linesThatComeAgain() {
+        Edge.due(match(lines(1, 2, 1, 2), lines(2, 1)), "-1 0 1 -1 +0");
+        Edge.due(match(lines(2, 1), lines(1, 2, 1)), "1 2 +1");
+        Edge.due(match(lines(1, 2, 1), lines(3, 1, 3, 2)), "1 3 -1 +2");
+        // L(1, 0) is 4, by 4 3 4 5, and so is L(0, 1), by 3 3 4 5: so the 3 at the top is REMOVED.
+        Edge.due(match(lines(3, 4, 3, 4, 5, 3), lines(4, 5, 3, 3, 4, 5)), "-1 0 2 4 5 -1 +2");
+    }
+
+    /** L(i, k) as the document tells it. */
+    private static int longest(int[] a, int[] b, int i, int k) {
+        if (i == a.length || k == b.length) {
+            return 0;
+        }
+        int without = Math.max(longest(a, b, i + 1, k), longest(a, b, i, k + 1));
+        return a[i] == b[k] ? Math.max(without, 1 + longest(a, b, i + 1, k + 1)) : without;
+    }
+
+    /** As match(), as the document tells it. */
+    private static String told(int[] a, int[] b) {
+        int[] places = new int[a.length];
+        java.util.Arrays.fill(places, -1);
+        int added = b.length;
+        int i = 0;
+        int k = 0;
+        while (i < a.length && k < b.length) {
+            if (a[i] == b[k]) {
+                places[i++] = k++;
+                added--;
+            } else if (longest(a, b, i + 1, k) >= longest(a, b, i, k + 1)) {
+                i++;
+            } else {
+                k++;
+            }
+        }
+        StringBuilder text = new StringBuilder();
+        for (int place : places) {
+            text.append(place).append(' ');
+        }
+        return text.append('+').append(added).toString();
+    }
+
+    /** Each row of up to four lines that are 1 or 2: a number from 1 to 31 tells it, digit by digit. */
+    private static int[] shortRow(int number) {
+        int size = Integer.SIZE - Integer.numberOfLeadingZeros(number) - 1;
+        int[] row = new int[size];
+        for (int n = 0; n < size; n++) {
+            row[n] = 1 + (number >> n & 1);
+        }
+        return row;
+    }
+
+    static void term03_allShortRows() {
+        for (int one = 1; one < 32; one++) {
+            int[] a = shortRow(one);
+            StrataRepo repo = State.desk(0, a);
+            State.put(repo, 5, 0);
+            repo.commit(0);
+            // The long ones go first, so that nothing that they leave may stand in the way of the short ones.
+            for (int other = 31; other > 0; other--) {
+                int[] b = shortRow(other);
+                State.change(repo, 0, b);
+                repo.replace(5, 0, other);
+                int commit = repo.commit(other);
+                StringBuilder text = new StringBuilder();
+                for (int place = 0; place < a.length; place++) {
+                    text.append(repo.pairOf(0, commit, 0, place)).append(' ');
+                }
+                Edge.due(text.append('+').append(repo.added(0, commit, 0)).toString(), told(a, b));
+                Edge.due(told(b, a).endsWith("+" + repo.added(commit, 0, 0)), true);
+            }
+        }
+    }
+
+    static void term03_behindAnotherMatch() {
+        StrataRepo repo = State.desk(0, State.row(100, 40));
+        repo.commit(1);
+        State.change(repo, 0, State.row(101, 40));
+        repo.commit(2);
+        State.change(repo, 0, 1, 2);
+        repo.commit(3);
+        State.change(repo, 0, 2, 1);
+        repo.commit(4);
+        Edge.due(repo.added(0, 1, 0), 1);
+        Edge.due(repo.pairOf(2, 3, 0, 0), -1);
+        Edge.due(repo.pairOf(2, 3, 0, 1), 0);
+        Edge.due(repo.added(2, 3, 0), 1);
+        Edge.due(repo.added(1, 1, 0), 0);
+        Edge.due(repo.added(3, 2, 0), 1);
+        Edge.due(repo.pairOf(3, 2, 0, 0), -1);
+        Edge.due(repo.pairOf(3, 2, 0, 1), 0);
+    }
+
     // ---- term 4: merging
 
     static void term04_baseHasNoneAndOursOrTheirsHasNone() {
@@ -527,6 +619,44 @@ public final class TermEdgeTest {
         Edge.due(repo.touched(2, 3), 1);
         Edge.due(repo.lines(3, 3), 40);
         Edge.due(repo.lineAt(3, 3, 39), 39);
+    }
+
+    /** A merge of all eight files, each with forty lines, that is as ours; carried over, each line of each file is HELD. */
+    static void term04_fortyLinesOfEachFileHeld() {
+        StrataRepo repo = new StrataRepo();
+        for (int file = 0; file < 8; file++) {
+            State.put(repo, file, State.row(100 * file, 40));
+        }
+        repo.commit(10);
+        repo.branch(1);
+        repo.replace(7, 39, 901);
+        repo.commit(20);
+        repo.go(1);
+        repo.replace(7, 39, 901);
+        repo.commit(30);
+        Edge.due(repo.merge(0), 2);
+        Edge.due(repo.carry(3), 0);
+        Edge.due(repo.takeBack(3), 0);
+        Edge.due(repo.touched(2, 3), 0);
+        Edge.due(repo.lineAt(3, 7, 39), 901);
+    }
+
+    static void term04_behindALongerMerge() {
+        StrataRepo repo = State.desk(7, 1, 2, 3);
+        repo.commit(10);
+        repo.branch(1);
+        repo.insert(7, 1, 4);
+        repo.commit(20);
+        repo.go(1);
+        repo.insert(7, 1, 5);
+        repo.commit(30);
+        Edge.due(repo.wouldConflict(1), 1);
+        repo.delete(7);
+        repo.create(0);
+        repo.commit(40);
+        Edge.due(repo.wouldConflict(3), 0);
+        Edge.due(repo.wouldConflict(1), 1);
+        Edge.due(repo.wouldConflict(2), 1);
     }
 
     static void term04_justForty() {

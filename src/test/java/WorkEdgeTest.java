@@ -595,6 +595,20 @@ public final class WorkEdgeTest {
         Edge.due(repo.isClean(), true);
     }
 
+    static void promise17_whatAnEarlierReplayMadeDoesNotCount() {
+        StrataRepo repo = forkOf(3);
+        Edge.due(repo.replay(0), 2);
+        repo.go(0);
+        repo.create(5);
+        repo.commit(40);
+        repo.branch(2);
+        repo.reset(1);
+        repo.create(5);
+        repo.commit(50);
+        Edge.due(repo.replay(2), 1);
+        Edge.due(repo.commitOf(0), 4);
+    }
+
     static void promise17_noSuchBranch() {
         Edge.refused(Edge.INDEX, State::ready, State.NO_BRANCHES, (r, branch) -> r.replay(branch));
         Edge.refused(Edge.INDEX, State::ready, Edge.numbers(2, 7), (r, branch) -> r.replay(branch));
