@@ -190,7 +190,9 @@ public final class GridTest {
     public static void main(String[] arguments) {
         allOfTheFace();
         for (String state : STATES) {
-            new GridTest(state).all(state.length() > 400 ? state.substring(0, 20) + " .. " + state.substring(state.length() - 80) : state);
+            boolean isLong = state.length() > 400;
+            String told = isLong ? state.substring(0, 20) + " .. " + state.substring(state.length() - 80) : state;
+            new GridTest(state).all(told);
         }
         Check.end();
     }
